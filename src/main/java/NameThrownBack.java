@@ -23,8 +23,8 @@ public final class NameThrownBack {
 
     private static final int LETS = 0, LUCKS = 1, TAKES = 2;
 
-    // What a text is made into: numbers stand for themselves, what is below 0 is done. An operand
-    // of two comes behind both, so that no call has to go down into an E again when it is asked.
+    // What a text is made into: numbers stand for themselves, what is below 0 is done. What is done
+    // to two comes behind both, so that no call has to go down into an E again when it is asked.
     private static final int THING = -1, KNOWN = -2, KEPT = -3, TIDE = -4, LUCK = -5, MORE = -6;
     private static final int OR = -7, AND = -8, NOT = -9, LESS = -10, LIKE = -11, PLUS = -12,
             LESS_BY = -13, TIMES = -14, MINUS = -15;

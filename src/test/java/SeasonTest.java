@@ -49,6 +49,8 @@ public final class SeasonTest {
         // the tide behind the first landing brings it 7; the second throws it back, and again it comes
         Due.is("landings without", x.season(0, 1, 3), 1);
         Due.is("known", x.season(0, 1, 0), 1);
+        x.shore(1, Due.bits(0));
+        Due.is("name 0 is one, too", x.season(0, 1, 3), 1);
     }
 
     static void tideMatters() {

@@ -4,6 +4,7 @@ public final class TextTest {
         plain();
         faults();
         open();
+        behindTheTape();
         values();
         full();
         Due.end();
@@ -38,6 +39,11 @@ public final class TextTest {
         fault("lucks 1;", 0);
         fault(" Lets 1;", 1);
         fault("letss 1;", 0);
+        fault("letsz 1;", 0);
+        fault("lets{ 1;", 4);
+        fault("lets`1;", 4);
+        fault("lets 1:", 6);
+        fault("lets /", 5);
         fault("let 1;", 0);
         fault("lets lets;", 5);
         fault("lets 1 2;", 7);
@@ -100,6 +106,22 @@ public final class TextTest {
         good("lets - 1 + (((((1)))));lucks 1;takes 1;");
         good("lets 1 - (((((1)))));lucks 1;takes 1;");
         good("lets (((((1 or 2 and 3 < 4 + 5 * 6)))));lucks 1 or 1 and 1 < 1 + 1 * (1 or 1 and 1 < 1 + 1 * 1);takes 1;");
+    }
+
+    /** What was read before is no part of a text, though it was longer. */
+    static void behindTheTape() {
+        for (char old : new char[] {'s', '9', ' ', '\n', ';'}) {
+            for (String text : new String[] {"let", "lets", "lets 1", "lets 9999", "lets 1 ", "lets 1;lucks 1;takes 1"}) {
+                NameThrownBack x = new NameThrownBack();
+                x.feed(5, old, old, old, old, old);
+                for (int i = 0; i < 30; i++) {
+                    x.feed(5, old, old, old, old, old);
+                }
+                x.text();
+                Due.is(text + " behind " + (int) old, Due.text(x, text), text.equals("let") ? -100 : -100 - text.length());
+                Due.is("whole, behind " + (int) old, Due.text(x, "lets 1;lucks 1;takes 1;"), 1);
+            }
+        }
     }
 
     static void values() {
