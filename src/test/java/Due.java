@@ -2,14 +2,20 @@
 final class Due {
     private static int wrong = 0;
     private static int asked = 0;
+    private static String test = "";
 
     private Due() { }
+
+    /** Of which test the answers are that come now. */
+    static void test(String name) {
+        test = name + ": ";
+    }
 
     static void is(String call, long got, long want) {
         asked++;
         if (got != want) {
             wrong++;
-            System.out.println(call + " answered " + got + ", due is " + want);
+            System.out.println(test + call + " answered " + got + ", due is " + want);
         }
     }
 
@@ -48,6 +54,13 @@ final class Due {
         for (int i = 0; i < numbers.length; i++) {
             x.cell(s, i, numbers[i]);
         }
+    }
+
+    /** A new object with one fisher. */
+    static NameThrownBack one(int kindMore, int known) {
+        NameThrownBack x = new NameThrownBack();
+        x.fisher(kindMore, known);
+        return x;
     }
 
     static int bits(int... ones) {

@@ -9,6 +9,9 @@ import java.util.TreeSet;
 final class Model {
     static final long NO = -4611686018427387904L;
 
+    /** How often the object that it is the model of was used. */
+    int calls;
+
     static class Fisher {
         int kind;
         int more;

@@ -6,6 +6,8 @@ public final class ModelTest {
     private static final String[] TOKENS = {"lets", "lucks", "takes", "or", "and", "not", "thing", "known", "kept", "tide", "luck",
         "more", "(", ")", ";", "+", "-", "*", "<", "=", "0", "7", "12345", "9999", "@", "let", "\u00e9", "\n", " "};
 
+    private static final int MOST_CALLS = 512;
+
     public static void main(String[] args) {
         Random lots = new Random(20261119);
         int runs = args.length > 0 ? Integer.parseInt(args[0]) : 150;
@@ -88,10 +90,10 @@ public final class ModelTest {
 
     static void changes(NameThrownBack x, Model m, String all, Random lots, int one, int landings) {
         switch (lots.nextInt(8)) {
-            case 0: ask(x, m, all, 7, one, 0, x.told(one, 0) ^ 1 << lots.nextInt(16)); break;
+            case 0: ask(x, m, all, 7, one, 0, Model.bits(m.now.fishers.get(one).known) ^ 1 << lots.nextInt(16)); break;
             case 1: ask(x, m, all, 7, one, 2, lots.nextInt(100)); break;
             case 2: ask(x, m, all, 4, lots.nextInt(m.texts.size())); break;
-            case 3: ask(x, m, all, 6, lots.nextInt(60), x.told(one, 0)); break;
+            case 3: ask(x, m, all, 6, lots.nextInt(60), Model.bits(m.now.fishers.get(one).known)); break;
             case 4: ask(x, m, all, 33, 1, lots.nextInt(7), lots.nextInt(100)); break;
             case 5:
                 int told = lots.nextInt(landings + 1);
@@ -136,7 +138,12 @@ public final class ModelTest {
         ask(x, m, all, 29, lots.nextInt(100000), 1 + lots.nextInt(40), lots.nextInt(17), lots.nextInt(2));
     }
 
+    /** Asks both, unless the object was used as often as one is. */
     static void ask(NameThrownBack x, Model m, String run, int call, int... told) {
+        if (m.calls >= MOST_CALLS) {
+            return;
+        }
+        m.calls++;
         int[] a = Arrays.copyOf(told, 6);
         Due.is(run + Calls.name(call, a), Calls.ask(x, call, a), m.ask(call, a));
     }
@@ -145,7 +152,7 @@ public final class ModelTest {
         NameThrownBack x = new NameThrownBack();
         Model m = new Model();
         StringBuilder told = new StringBuilder();
-        for (int i = 0; i < 512; i++) {
+        while (m.calls < MOST_CALLS) {
             int call = lots.nextInt(Calls.MANY);
             if (call == 2 && lots.nextInt(3) > 0) {
                 texts(x, m, lots);
@@ -157,6 +164,10 @@ public final class ModelTest {
             if (call == 31 && lots.nextInt(5) > 0) {
                 continue;
             }
+            if (m.calls >= MOST_CALLS) {
+                return;
+            }
+            m.calls++;
             long got = Calls.ask(x, call, a);
             long want = m.ask(call, a);
             told.append(Calls.name(call, a)).append(' ');
@@ -226,9 +237,10 @@ public final class ModelTest {
         if (t.length() > 160) {
             t.setLength(160);
         }
-        for (int i = 0; i < t.length(); i++) {
-            Due.is("feed", x.feed(1, t.charAt(i), 0, 0, 0, 0), m.feed(1, t.charAt(i), 0, 0, 0, 0));
+        if (m.calls + t.length() + 8 > MOST_CALLS) {
+            return;
         }
+        m.calls += feeds(x, m, t, lots) + 8;
         int got = x.text();
         Due.is("text " + m.tape, got, m.text());
         if (got > 0 && lots.nextBoolean()) {
@@ -240,6 +252,22 @@ public final class ModelTest {
                 Due.is(t + " part " + part, x.asks(part, 0, 11), m.asks(part, 0, 11));
             }
         }
+    }
+
+    /** Feeds a text by one to five bytes each time: how many times. */
+    static int feeds(NameThrownBack x, Model m, StringBuilder t, Random lots) {
+        int times = 0;
+        int n;
+        for (int i = 0; i < t.length(); i += n) {
+            n = Math.min(1 + lots.nextInt(5), t.length() - i);
+            int[] b = new int[5];
+            for (int k = 0; k < 5; k++) {
+                b[k] = k < n ? t.charAt(i + k) : lots.nextInt(256);
+            }
+            Due.is("feed", x.feed(n, b[0], b[1], b[2], b[3], b[4]), m.feed(n, b[0], b[1], b[2], b[3], b[4]));
+            times++;
+        }
+        return times;
     }
 
     static String e(Random lots, int deep) {

@@ -8,31 +8,40 @@ public final class WrongInputsTest {
 
     public static void main(String[] args) {
         Random lots = new Random(17);
-        for (int run = 0; run < 300; run++) {
+        for (int run = 0; run < 3000; run++) {
             NameThrownBack x = new NameThrownBack();
             if (run % 3 > 0) {
                 Calls.start(x, lots);
             }
-            for (int i = 0; i < 300; i++) {
+            for (int i = 0; i < 50; i++) {
+                asks(x, lots.nextInt(Calls.MANY), lots);
+            }
+            for (int i = 0; i < 2; i++) {
                 int call = lots.nextInt(Calls.MANY);
-                int[] a = new int[6];
-                for (int k = 0; k < a.length; k++) {
-                    a[k] = lots.nextInt(3) == 0 ? lots.nextInt(7) : EDGES[lots.nextInt(EDGES.length)];
-                }
                 String was = Due.seen(x);
-                long answer;
-                try {
-                    answer = Calls.ask(x, call, a);
-                } catch (RuntimeException e) {
-                    Due.is(Calls.name(call, a) + " threw " + e, 0, 1);
-                    continue;
-                }
+                long answer = asks(x, call, lots);
                 // text() empties the tape by a fault, fishersBy() keeps what stood ahead
                 if (answer < -1 && call != Calls.TEXT && call != Calls.FISHERS_BY && call != Calls.LANDS) {
-                    Due.holds(Calls.name(call, a) + " answered " + answer + " and changed nothing", was.equals(Due.seen(x)));
+                    Due.holds("run " + run + ": " + answer + " changed nothing", was.equals(Due.seen(x)));
                 }
             }
         }
         Due.end();
+    }
+
+    /** Some call with some numbers; it must not throw. */
+    static long asks(NameThrownBack x, int call, Random lots) {
+        int[] a = new int[6];
+        for (int k = 0; k < a.length; k++) {
+            a[k] = lots.nextInt(3) == 0 ? lots.nextInt(7) : EDGES[lots.nextInt(EDGES.length)];
+        }
+        try {
+            long answer = Calls.ask(x, call, a);
+            Due.holds(Calls.name(call, a) + " doesn't throw", true);
+            return answer;
+        } catch (RuntimeException e) {
+            Due.holds(Calls.name(call, a) + " threw " + e, false);
+            return 0;
+        }
     }
 }
