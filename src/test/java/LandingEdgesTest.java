@@ -220,6 +220,36 @@ public final class LandingEdgesTest {
         Untouched.by("judge: BAD ahead of -11, -5", Untouched::busy, x -> x.judge(3, 4, 9), -2);
     }
 
+    /** Terms 2: "They change nothing, but where it is told.": each call, by numbers far too small and far too large. */
+    static void refusalsChangeNothing() {
+        for (int v : new int[] {Integer.MIN_VALUE, -100000, 100000, Integer.MAX_VALUE}) {
+            Untouched.byAll("BAD, by " + v, Untouched::busy, -2, x -> x.count(v), x -> x.shore(v, v), x -> x.feed(v, v, v, v, v, v),
+                x -> x.force(v), x -> x.fisher(v, v), x -> x.talk(v, v), x -> x.season(v, v, v), x -> x.fish(v, v), x -> x.when(v),
+                x -> x.judge(v, v, v), x -> x.kinds(v, v, v, v), x -> x.turned(v, v, v), x -> x.lucks(v, v, v, v), x -> x.whose(v, v),
+                x -> x.laws(v, v, v), x -> x.film(v, v, v), x -> x.drawn(v, v, v), x -> x.sheet(v, v, v), x -> x.cell(v, v, v),
+                x -> x.copy(v, v, v, v, v), x -> x.fishersBy(v, v, v, v), x -> x.taken(v, v));
+            Untouched.byAll("-5, by " + v, Untouched::busy, -5, x -> x.put(v, v, v), x -> x.told(v, v), x -> x.land(v, v),
+                x -> x.teach(v, v), x -> x.which(v, v), x -> x.taught(v, v), x -> x.lessons(v, v, v));
+            Untouched.by("-1000, by " + v, Untouched::busy, x -> x.asks(v, v, v), -1000);
+            Untouched.by("-5000, by " + v, Untouched::busy, x -> x.lands(v, v, v), -5000);
+            Untouched.byAll("NO, by " + v, Untouched::busy, NameThrownBack.NO, x -> x.share(v, v), x -> x.odds(v, v, v, v));
+        }
+    }
+
+    /** Terms 2: "What is asked changes nothing, but where it is told.": each call that asks, in a scene where it comes to something. */
+    static void whatIsAskedChangesNothing() {
+        Untouched.Call[] asked = {x -> x.count(1), x -> x.asks(0, 0, 3), x -> x.told(0, 5), x -> x.lands(1, 3, 0), x -> x.talk(7, 3),
+            x -> x.season(0, 1, 0), x -> x.which(0, 0), x -> x.taught(0, 0), x -> x.lessons(0, 0, 1), x -> x.when(11), x -> x.share(0, 1),
+            x -> x.judge(0, 1, 0), x -> x.kinds(0, 1, 0, 0), x -> x.turned(0, 1, 0), x -> x.lucks(0, 1, 0, 0), x -> x.whose(0, 1),
+            x -> x.laws(0, 1, 0), x -> x.drawn(5, 60, 1), x -> x.odds(5, 40, 9, 0), x -> x.taken(6, 6)};
+        for (int k = 0; k < asked.length; k++) {
+            Untouched.by("number " + k, Untouched::busy, asked[k], asked[k].on(Untouched.busy()));
+            NameThrownBack twice = Untouched.busy();
+            long first = asked[k].on(twice);
+            Due.is("asked twice, number " + k, asked[k].on(twice), first);
+        }
+    }
+
     /** Promise 12: "One LANDS a THING, truly: the NAME that one LETS go; -1: none.": the first, the last, none. */
     static void landOfTheEnds() {
         NameThrownBack x = Due.one(0, Due.bits(0, 15));
@@ -385,6 +415,31 @@ public final class LandingEdgesTest {
         // what goes is found at once by the first of those who know none then, who is the one
         Due.is("it is found by the one again", y.season(0, 0, 3), 0);
         Due.is("the last one knows none ever", y.season(0, 2, 3), 3);
+    }
+
+    /** Promise 16: "what is KEPT, its NAME not KNOWN (4; bits).": none, all. */
+    static void seasonKeptWithoutAName() {
+        Untouched.Scene all = () -> {
+            NameThrownBack x = Due.one(0, 0);
+            x.sheet(0, 0, 16);
+            for (int i = 0; i < 16; i++) {
+                x.cell(0, i, i);
+            }
+            return x;
+        };
+        Untouched.by("all", all, x -> x.season(0, 0, 4), ALL);
+        Untouched.by("none", () -> {
+            NameThrownBack x = all.make();
+            x.put(0, 0, ALL);
+            return x;
+        }, x -> x.season(0, 0, 4), 0);
+        Untouched.by("what another one found", () -> {
+            NameThrownBack x = all.make();
+            x.put(0, 0, ALL);
+            x.fisher(0, 0);
+            x.sheet(0, 0, 1);
+            return x;
+        }, x -> x.season(0, 0, 4), 1);
     }
 
     /** Promise 16: "BAD: SHEET; -11; BAD: it tells what is no THING; -5: none such; -7: what.": each, too small and too large. */

@@ -39,6 +39,15 @@ public final class LotsEdgesTest {
         Untouched.by("by 99999", () -> six(true), x -> x.drawn(99999, 2, 1), Due.bits(7, 9));
     }
 
+    /** Terms 2: "FISHER LOT modulo 6, if there is one, LANDS THING the other LOT modulo 16": the first and the last of both. */
+    static void lotsOfTheFirstAndTheLast() {
+        int[][] lots = {{53, 0, 0}, {22, 5, 15}, {5, 0, 12}, {4, 5, 10}, {7, 2, 0}, {14, 3, 15}};
+        for (int[] lot : lots) {
+            Due.is("who, by " + lot[0], six(false).drawn(lot[0], 1, 1), 1 << lot[1]);
+            Due.is("what, by " + lot[0], six(true).drawn(lot[0], 1, 1), 1 << lot[2]);
+        }
+    }
+
     /** Terms 2: "FISHER LOT modulo 6, if there is one": with fewer than six there is none of some lots; with none there is nobody. */
     static void lotsOfThoseWhoAreNotThere() {
         // by 1 fisher 2 lands first
@@ -277,6 +286,56 @@ public final class LotsEdgesTest {
             Due.is("more", x.told(p, 4), 0);
             Due.is("known", x.told(p, 0), 1 << p);
         }
+    }
+
+    /** One who knows and keeps some, when five who knew and kept all came and are none again. */
+    static NameThrownBack left() {
+        NameThrownBack x = Due.one(0, Due.bits(3));
+        x.image();
+        for (int p = 1; p < 6; p++) {
+            x.fisher(0, ALL);
+            x.put(p, 1, ALL);
+        }
+        x.back();
+        x.shore(1, Due.bits(4));
+        Due.row(x, 0, 0, 1);
+        Due.row(x, 1, 0, 55);
+        return x;
+    }
+
+    /** Promise 33: "FISHERS that came since are none": nothing of theirs is seen by any call. */
+    static void nothingOfThoseWhoCameSince() {
+        Untouched.by("taught by whom", LotsEdgesTest::left, x -> x.taught(0, 0), -1);
+        Untouched.by("lessons", LotsEdgesTest::left, x -> x.lessons(0, 0, 0), -1);
+        Untouched.by("lessons by which", LotsEdgesTest::left, x -> x.lessons(0, 0, 1), -1);
+        Untouched.by("when", LotsEdgesTest::left, x -> x.when(5), -1);
+        Untouched.by("drawn", LotsEdgesTest::left, x -> x.drawn(1, 1, 0), 1);
+        Untouched.by("odds", LotsEdgesTest::left, x -> x.odds(1, 1, 3, 0), 0);
+        Untouched.by("whose", LotsEdgesTest::left, x -> x.whose(0, 1), 1);
+        Untouched.by("the sea is washed up to the one", LotsEdgesTest::left, x -> x.when(4), 1);
+        Untouched.byAll("nobody", LotsEdgesTest::left, -5, x -> x.put(1, 0, 0), x -> x.told(1, 0), x -> x.land(1, 0), x -> x.teach(1, 0),
+            x -> x.teach(0, 1), x -> x.season(0, 1, 0), x -> x.fish(0, 1), x -> x.which(1, 0), x -> x.taught(1, 0), x -> x.lessons(1, 0, 0),
+            x -> x.judge(0, 1, 1), x -> x.kinds(0, 1, 1, 0), x -> x.turned(0, 1, 1), x -> x.lucks(0, 1, 1, 0), x -> x.laws(0, 1, 1),
+            x -> x.film(0, 1, 1));
+        Untouched.byAll("no share", LotsEdgesTest::left, NameThrownBack.NO, x -> x.share(1, 0), x -> x.share(5, 1));
+        Untouched.byAll("no part", LotsEdgesTest::left, -1000, x -> x.asks(0, 1, 0), x -> x.asks(2, 5, 0));
+        Untouched.byAll("no landing", LotsEdgesTest::left, -5000, x -> x.lands(1, 0, 0), x -> x.lands(5, 0, 1));
+        Untouched.byAll("no talk", LotsEdgesTest::left, -2, x -> x.talk(2, 1), x -> x.talk(63, 1));
+        Untouched.byAll("nothing lies there", LotsEdgesTest::left, -11, x -> x.taken(1, 0), x -> x.taken(7, 6));
+    }
+
+    /** Promise 33: "All that it keeps is as in THE IMAGE": twice alike, whatever was done between. */
+    static void backTwice() {
+        NameThrownBack x = Untouched.busy();
+        Due.is("two", x.back(), 2);
+        String was = Due.seen(x);
+        x.fish(0, 1);
+        x.fisher(0, 0);
+        x.force(2);
+        Due.is("two again", x.back(), 2);
+        Due.holds("alike", was.equals(Due.seen(x)));
+        Due.is("two once more", x.back(), 2);
+        Due.holds("alike", was.equals(Due.seen(x)));
     }
 
     /** Promise 33: "STATE: there is none.": of a new object, and of one on which much was done. */

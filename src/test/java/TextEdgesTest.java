@@ -102,13 +102,18 @@ public final class TextEdgesTest {
         fault(":", 0);
     }
 
-    /** Terms 1: "SIGNS ( ) ; + - * < = ;": the bytes beside them are none. */
+    /** Terms 1: "SIGNS ( ) ; + - * < = ;": no other byte is one, wherever it stands. */
     static void signsAreThese() {
         good("(1)+2-3*4<5");
         good("1=2");
-        for (char c : "'!\"#$%&,./:>?@[]^_`{|}~\u0000\u0001\u007f\u0080\u00ff".toCharArray()) {
-            fault("1" + c + "1", 1);
-            wholeFault("" + c, 0);
+        for (char c = 0; c < 256; c++) {
+            boolean begins = (c >= 'a' && c <= 'z') || (c >= '0' && c <= '9') || "();+-*<= \n".indexOf(c) >= 0;
+            if (!begins) {
+                fault("" + c, 0);
+                fault("1" + c + "1", 1);
+                wholeFault("" + c, 0);
+                wholeFault("lets 1;lucks 1;takes 1;" + c, 23);
+            }
         }
     }
 
@@ -139,6 +144,38 @@ public final class TextEdgesTest {
         wholeFault("lets;", 4);
         wholeFault("lets 1 lucks", 7);
         wholeFault("lets 1;1", 7);
+    }
+
+    /** Terms 1: "TEXT: lets E ; lucks E ; takes E ;": nothing else begins a part, and what begins one is nowhere else. */
+    static void whatBeginsAPart() {
+        for (String other : "or and not thing more 1 ( - ; letss let bets lfts lett".split(" ")) {
+            wholeFault(other + " 1;lucks 1;takes 1;", 0);
+        }
+        for (String other : "or and not tide 1 ( - ; lets takes luck bucks lucky duck".split(" ")) {
+            wholeFault("lets 1;" + other + " 1;takes 1;", 7);
+        }
+        for (String other : "or and not kept 1 ( - ; lets lucks take bakes takez".split(" ")) {
+            wholeFault("lets 1;lucks 1;" + other + " 1;", 15);
+        }
+        for (String key : "lets lucks takes".split(" ")) {
+            fault(key, 0);
+            fault("1 " + key + " 1", 2);
+            fault("1 or " + key, 5);
+            fault("(" + key + ")", 1);
+        }
+        fault("1 not 1", 2);
+    }
+
+    /** Terms 1: "of a WORD that is neither KEY nor NAME": each KEY and NAME with one letter that is another one. */
+    static void wordsThatAreAlmostOne() {
+        for (String word : "or and not thing known kept tide luck more".split(" ")) {
+            for (int i = 0; i < word.length(); i++) {
+                String almost = word.substring(0, i) + (word.charAt(i) == 'z' ? 'y' : (char) (word.charAt(i) + 1)) + word.substring(i + 1);
+                fault("1 + " + almost, 4);
+                fault("1 " + almost + " 1", 2);
+                fault(almost + " 1", 0);
+            }
+        }
     }
 
     /** Terms 1: "E: AND { or AND }. AND: NOT { and NOT }.": one only, or many. */
@@ -214,6 +251,22 @@ public final class TextEdgesTest {
         fault("thing more", 6);
     }
 
+    /** Terms 1: "NAMES: thing known kept tide luck more.": each in each part, one letter less, one more. */
+    static void namesInEachPart() {
+        for (String name : "thing known kept tide luck more".split(" ")) {
+            good(name);
+            fault(name.substring(0, name.length() - 1), 0);
+            fault(name + "s", 0);
+            fault(name.substring(1), 0);
+            Due.is(name + " in lucks", Due.text(new NameThrownBack(), "lets 1;lucks " + name + ";takes 1;"), 1);
+            Due.is(name + " in takes", Due.text(new NameThrownBack(), "lets 1;lucks 1;takes " + name + ";"), 1);
+            wholeFault(name, 0);
+        }
+        for (String key : "lets lucks takes or and not".split(" ")) {
+            fault("1 + " + key, 4);
+        }
+    }
+
     /** Terms 1: "An E is an int (32 bits, wrapping)". */
     static void anEWraps() {
         // 2048 * 1024 * 1024 is 2 to the 31st: the least int
@@ -236,6 +289,7 @@ public final class TextEdgesTest {
         Due.is("0 or 0", value("0 or 0"), 0);
         Due.is("-1 and 9", value("-1 and 9"), 1);
         Due.is("9 and 0", value("9 and 0"), 0);
+        Due.is("0 and 9", value("0 and 9"), 0);
         Due.is("2 and 4", value("2 and 4"), 1);
         Due.is("not -1", value("not -1"), 0);
         Due.is("not 2", value("not 2"), 0);
@@ -279,6 +333,21 @@ public final class TextEdgesTest {
         wholeFault("\n\n", 2);
         wholeFault("lets 1;lucks 2;takes 3", 22);
         wholeFault("lets 1;lucks 2;takes 3  ", 24);
+    }
+
+    /** Terms 1: "(the text's size, if it ends too early)": what stood there before on a longer tape doesn't count. */
+    static void whatStoodThereBefore() {
+        for (String old : new String[] {"s", "9", " ", "\n", ";", ")"}) {
+            for (String text : new String[] {"lets", "lets 1", "lets 99", "lets 1 ", "lets 1;lucks 1;takes 1", "lets (1"}) {
+                NameThrownBack x = new NameThrownBack();
+                while (x.count(5) < 160) {
+                    Due.feed(x, old);
+                }
+                x.text();
+                Due.is(text + " behind many " + old, Due.text(x, text), -100 - text.length());
+                Due.is("a whole one", Due.text(x, "lets 1;lucks 1;takes 1;"), 1);
+            }
+        }
     }
 
     /** Terms 1: "also of a byte that begins none, of a WORD that is neither KEY nor NAME, a NUMBER that is too long": at the byte, the first letter, the first digit. */
@@ -423,6 +492,19 @@ public final class TextEdgesTest {
         NameThrownBack x = again(5);
         Due.feed(x, tape);
         return x;
+    }
+
+    /** Promise 5: "is a TEXT: its number": a shorter one has nothing of the longer one ahead of it. */
+    static void aShorterTextBehindALongerOne() {
+        NameThrownBack x = Due.one(0, 0);
+        Due.is("longer", Due.text(x, "lets 1;lucks 1;takes not -9 or -(9);"), 1);
+        for (int t = 2; t < 6; t++) {
+            Due.is("shorter", Due.text(x, t % 2 == 0 ? "lets 1;lucks 1;takes 5;" : "lets 1;lucks 1;takes - - 5;"), t);
+            x.force(t);
+            Due.is("lets", x.asks(0, 0, 0), 1);
+            Due.is("lucks", x.asks(1, 0, 0), 1);
+            Due.is("takes", x.asks(2, 0, 0), 5);
+        }
     }
 
     /** Promise 5: "is a TEXT: its number": a FAULT is no text, and the next one has the number that it would have had. */
